@@ -213,8 +213,8 @@ public final class TwoEyes {
         if (!scene.hasSquare(x, y) || !isDepth(d) || k < 0 || k >= NEIGHBOURS) {
             return NUMBER;
         }
-        refreshVotes();
-        sums.goAlong(k, scene, rules);
+        refreshCosts();
+        sums.goAlong(k, scene, costs, rules);
         return sums.runs[scene.placeOf(x, y) * DEPTHS + d];
     }
 
@@ -411,17 +411,10 @@ public final class TwoEyes {
         }
     }
 
-    private void refreshVotes() {
-        refreshCosts();
-        if (!sums.voted) {
-            sums.vote(scene, costs, rules[D]);
-        }
-    }
-
     private void refreshSums() {
-        refreshVotes();
+        refreshCosts();
         if (!sums.added) {
-            sums.addAll(scene, rules);
+            sums.addAll(scene, costs, rules);
         }
     }
 
@@ -526,7 +519,7 @@ public final class TwoEyes {
         }
 
         boolean hasSquare(int x, int y) {
-            return x >= 0 && x < width && hasHeight(y);
+            return x >= 0 && x < width && y >= 0 && y < height;
         }
 
         /** Told by a difference, as x + n could wrap. */
@@ -552,8 +545,8 @@ public final class TwoEyes {
 
         /** The SHADE, or LOST, be it by itself or by its ROW. */
         int seen(int picture, int x, int y) {
-            Picture its = pictureOf(picture);
-            return its.missing[y] ? LOST : its.squares[placeOf(x, y)];
+            Picture its = picture == LEFT ? left : right;
+            return its.missing[y] ? LOST : its.squares[y * width + x];
         }
 
         /** 0 if the SQUARE may be written; a MISSING row is told before a wrong column. */
@@ -622,15 +615,7 @@ public final class TwoEyes {
         final int[] dark = new int[MOST_SQUARES];
         final boolean[] lost = new boolean[MOST_SQUARES];
 
-        void look(Scene scene, int picture) {
-            for (int y = 0; y < scene.height; y++) {
-                for (int x = 0; x < scene.width; x++) {
-                    lookAround(scene, picture, x, y);
-                }
-            }
-        }
-
-        private void lookAround(Scene scene, int picture, int x, int y) {
+        void lookAround(Scene scene, int picture, int x, int y) {
             int own = scene.seen(picture, x, y);
             int knownBits = 0;
             int darkBits = 0;
@@ -659,8 +644,12 @@ public final class TwoEyes {
         boolean fresh = false;
 
         void measureAll(Scene scene) {
-            left.look(scene, LEFT);
-            right.look(scene, RIGHT);
+            for (int y = 0; y < scene.height; y++) {
+                for (int x = 0; x < scene.width; x++) {
+                    left.lookAround(scene, LEFT, x, y);
+                    right.lookAround(scene, RIGHT, x, y);
+                }
+            }
             for (int y = 0; y < scene.height; y++) {
                 for (int x = 0; x < scene.width; x++) {
                     int place = scene.placeOf(x, y);
@@ -779,7 +768,7 @@ public final class TwoEyes {
         /** By PLACES the least of the runs. */
         private final int[] least = new int[MOST_SQUARES];
         final int[] totals = new int[MOST_SQUARES * DEPTHS];
-        boolean voted = false;
+        private boolean voted = false;
         boolean added = false;
         /** The WAY that the runs are of, or NONE. */
         private int way = NONE;
@@ -790,7 +779,7 @@ public final class TwoEyes {
             way = NONE;
         }
 
-        void vote(Scene scene, Costs costs, int deep) {
+        private void vote(Scene scene, Costs costs, int deep) {
             for (int y = 0; y < scene.height; y++) {
                 for (int x = 0; x < scene.width; x++) {
                     int place = scene.placeOf(x, y);
@@ -813,11 +802,11 @@ public final class TwoEyes {
             return cost == NONE ? 0 : cost;
         }
 
-        void addAll(Scene scene, int[] rules) {
+        void addAll(Scene scene, Costs costs, int[] rules) {
             Arrays.fill(totals, 0);
             int end = scene.countSquares() * DEPTHS;
             for (int k = 0; k < NEIGHBOURS; k++) {
-                goAlong(k, scene, rules);
+                goAlong(k, scene, costs, rules);
                 for (int at = 0; at < end; at++) {
                     totals[at] += runs[at];
                 }
@@ -826,9 +815,12 @@ public final class TwoEyes {
         }
 
         /** The SQUARES come in an order in which the NEIGHBOUR is always done before. */
-        void goAlong(int k, Scene scene, int[] rules) {
+        void goAlong(int k, Scene scene, Costs costs, int[] rules) {
             if (way == k) {
                 return;
+            }
+            if (!voted) {
+                vote(scene, costs, rules[D]);
             }
             boolean rising = k < FIRST_BEHIND;
             for (int j = 0; j < scene.height; j++) {

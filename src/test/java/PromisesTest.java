@@ -117,6 +117,10 @@ public final class PromisesTest {
         due("no truth", eyes.many(7), 0);
         due("the rules stay", eyes.rule(0, 4), 2);
         due("the body stays", eyes.many(6), 448);
+        fill(eyes, 0, 0, 1, 2, 3);
+        due("cost before: left and all below are dark", eyes.cost(1, 0, 0), 4);
+        eyes.size(3, 1);
+        due("cost after", eyes.cost(1, 0, 0), 0);
     }
 
     private static int sumOfShades(TwoEyes eyes, int picture) {
@@ -349,6 +353,7 @@ public final class PromisesTest {
         due("below", eyes.many(-1), -1);
         due("above", eyes.many(8), -1);
         due("far", eyes.many(HIGH), -1);
+        due("told depths that are all 0", sized(4, 2).many(4), 8);
     }
 
     // ---- promise 10
@@ -737,6 +742,23 @@ public final class PromisesTest {
         duePlane("b is 2", last, 2, 0, 2, 0, 0, 0, 2);
         last.rule(0, 1);
         duePlane("no depth has a cost", last, 2, 0, 0, 0, 0, 9, 0);
+        TwoEyes steep = sized(3, 1);
+        for (int x = 1; x < 3; x++) {
+            steep.lose(1, x, 0);
+        }
+        duePlane("a is 2", steep, 2, 0, 0, 4, 0, 0, 2);
+        TwoEyes falling = sized(3, 3);
+        for (int y = 0; y < 3; y++) {
+            for (int x = 0; x < 3; x++) {
+                if (x < 2) {
+                    falling.lose(0, x, y);
+                }
+                if (x != 2 - y) {
+                    falling.lose(1, x, y);
+                }
+            }
+        }
+        duePlane("c is 2", falling, 2, 2, 0, 0, 4, 0, 2);
         TwoEyes unlike = smallRow();
         unlike.rule(4, 255);
         // 1 + 2 + 1 by depth 0; 9 + 0 + 0 by depth 1; 1 + 2 + 0 by 0, 0, 1
@@ -872,6 +894,11 @@ public final class PromisesTest {
         eyes.draw(0, 0, 1, 1, 0, -1);
         // -1103515245 + 12345 = -1103502900: its highest 16 bits are 48697
         due("a number without sign", eyes.told(0, 0, 0), 48697 % 256);
+        TwoEyes fresh = sized(2, 1);
+        fresh.shade(0, 0, 0, 9);
+        due("cost before", fresh.cost(0, 0, 0), 1);
+        fresh.draw(0, 0, 2, 1, 0, 1);
+        due("cost after", fresh.cost(0, 0, 0), 0);
     }
 
     private static void drawRefusals() {
@@ -931,6 +958,10 @@ public final class PromisesTest {
         for (int what = 0; what <= 3; what++) {
             due("no truth, " + what, eyes.score(what), 0);
         }
+        eyes.draw(0, 0, 3, 1, 0, 1);
+        due("depths that are all 0", eyes.score(0), 3);
+        due("none is another", eyes.score(1), 0);
+        due("each has one", eyes.score(2), 0);
         due("below", eyes.score(-1), NUMBER);
         due("above", eyes.score(4), NUMBER);
     }
