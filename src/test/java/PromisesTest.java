@@ -1,6 +1,7 @@
 /**
- * The promises 1 to 30 one by one. The answers that are due were worked out by hand from the
- * document: ordinary inputs, the edges it names, each refusal, and of several the first one named.
+ * The promises 1 to 30 one by one: ordinary inputs, the edges the document names, each refusal, and
+ * of several the first one named. The answers that are due were worked out by hand from the document,
+ * but for viewWhereSeveralCome, which works them out from what agreed and told answer.
  */
 public final class PromisesTest {
     private static final int NUMBER = -1;
@@ -812,7 +813,10 @@ public final class PromisesTest {
         due("row below", eyes.view(0, 0, -1), NUMBER);
     }
 
-    /** A near board before a far one: in the views between some SQUARES come to one column. */
+    /**
+     * A near board before a far one: in the views between some SQUARES come to one column. The seeds
+     * were found by trying, since few scenes have such a column; that this one has is tested, too.
+     */
     private static void viewWhereSeveralCome() {
         TwoEyes eyes = sized(20, 6);
         eyes.rule(0, 8);
