@@ -14,6 +14,7 @@ import java.util.regex.Pattern;
 /** The document's face, and the rules of LANGUAGE.md that can be seen in the text and in the classes. */
 public final class LanguageTest {
     private static final Path SOURCE = Path.of("src/main/java/TwoEyes.java");
+    private static final Path DOCUMENT = Path.of("../shared/DOC.md");
     private static final Set<String> FACE = Set.of(
         "int NUMBER", "int MISSING", "int SIZE", "int NONE", "int LOST",
         "int size(int,int)", "int shade(int,int,int,int)", "int lose(int,int,int)",
@@ -35,12 +36,20 @@ public final class LanguageTest {
 
     private static int wrong = 0;
 
-    public static void main(String[] args) throws IOException {
+    public static void main(String[] args) throws IOException, IllegalAccessException {
         face();
+        if (Files.exists(DOCUMENT)) {
+            String document = Files.readString(DOCUMENT);
+            faceOfDocument(document);
+            order(document, Files.readString(SOURCE));
+        } else {
+            System.out.println("the document is not at " + DOCUMENT + ": its face is not compared");
+        }
         classes();
         String text = withoutComments(Files.readString(SOURCE));
         words(text);
         methodLengths(text);
+        objects(text);
         System.out.println(wrong == 0 ? "the language is kept" : wrong + " rules are broken");
         if (wrong != 0) {
             System.exit(1);
@@ -66,6 +75,51 @@ public final class LanguageTest {
         Constructor<?>[] constructors = type.getDeclaredConstructors();
         check(constructors.length == 1 && constructors[0].getParameterCount() == 0
             && Modifier.isPublic(constructors[0].getModifiers()), "rule 1: the constructor");
+    }
+
+    /** The face above is the document's, and the constants have its values. */
+    private static void faceOfDocument(String document) throws IllegalAccessException {
+        Set<String> told = new TreeSet<>();
+        Matcher constants = Pattern.compile("public static final (\\w+ (\\w+)) = (-?\\d+);").matcher(document);
+        while (constants.find()) {
+            told.add(constants.group(1));
+            check(valueOf(constants.group(2)).equals(constants.group(3)), "the value of " + constants.group(2));
+        }
+        Matcher calls = Pattern.compile("public (\\w+ \\w+)\\(([^)]*)\\);").matcher(document);
+        while (calls.find()) {
+            told.add(calls.group(1) + "(" + calls.group(2).replaceAll(" \\w+(,|$) ?", "$1") + ")");
+        }
+        check(told.equals(FACE), "the document's face is " + told);
+    }
+
+    private static String valueOf(String constant) throws IllegalAccessException {
+        for (Field field : TwoEyes.class.getFields()) {
+            if (field.getName().equals(constant)) {
+                return String.valueOf(field.get(null));
+            }
+        }
+        return "none";
+    }
+
+    /** What the interface says ahead of some calls, and these calls, come in the document's order. */
+    private static void order(String document, String source) {
+        Matcher groups = Pattern.compile("(?m)^Ahead of the calls (.*) the interface says: (---- .*)\\.$").matcher(document);
+        int at = 0;
+        int found = 0;
+        while (groups.find()) {
+            found++;
+            at = behind(source, "// " + groups.group(2) + "\n", at);
+            for (String call : groups.group(1).replace("`", "").split(", ")) {
+                at = behind(source, " " + call + "(", at);
+            }
+        }
+        check(found > 0, "the document's groups of calls are not found");
+    }
+
+    private static int behind(String source, String text, int from) {
+        int at = source.indexOf(text, from);
+        check(at >= 0, "not in the document's order: " + text.trim());
+        return Math.max(from, at);
     }
 
     private static String parameters(Method method) {
@@ -134,6 +188,12 @@ public final class LanguageTest {
             check(lines <= MOST_LINES, "rule 11: " + lines + " lines: " + methods.group().lines().findFirst().orElse(""));
         }
         check(count > FACE.size() - 10, "methods are not found in the text any more");
+    }
+
+    /** As README.md says, only the fields make objects, so that no run of calls can make too many. */
+    private static void objects(String text) {
+        text.lines().filter(line -> line.matches(".*\\b(new|clone|copyOf|copyOfRange)\\b.*")).forEach(line ->
+            check(line.matches(" +(private )?final \\S+ \\w+ = new .*;"), "rule 12: an object is made by " + line.trim()));
     }
 
     /** The lines stay, so that methods keep their length. */

@@ -1,4 +1,3 @@
-import java.lang.reflect.Method;
 import java.util.ArrayList;
 import java.util.List;
 
@@ -79,7 +78,7 @@ public final class RunsAgainstModelTest {
             case 2 -> call("shade", picture(), column(), line(), below(40));
             case 3 -> call("shade", picture(), column(), line(), far());
             case 4 -> call("lose", picture(), column(), line());
-            case 5 -> call("row", picture(), line(), below(2));
+            case 5 -> call("row", picture(), line(), below(2) == 1);
             case 6 -> call("copy", picture(), below(width), line(), below(width + 1), picture(), below(width), line());
             case 7 -> call("copy", picture(), column(), line(), near(width), picture(), column(), line());
             case 8 -> call("rule", near(4), below(30));
@@ -121,7 +120,7 @@ public final class RunsAgainstModelTest {
         }
     }
 
-    private void call(String name, int... a) {
+    private void call(String name, Object... a) {
         if (calls.size() >= CALLS) {
             return;
         }
@@ -129,13 +128,14 @@ public final class RunsAgainstModelTest {
         for (int i = 0; i < a.length; i++) {
             text.append(i == 0 ? "" : ", ").append(a[i]);
         }
-        calls.add(text.append(')').toString());
-        int want = asked(model, name, a);
+        Call call = Call.of(text.append(')').toString());
+        calls.add(call.toString());
+        int want = call.on(model);
         int got;
         try {
-            got = asked(eyes, name, a);
-        } catch (RuntimeException thrown) {
-            report("threw " + thrown, want);
+            got = call.on(eyes);
+        } catch (IllegalStateException thrown) {
+            report(thrown.getMessage(), want);
             return;
         }
         if (got != want) {
@@ -153,30 +153,6 @@ public final class RunsAgainstModelTest {
         }
         if (wrong == 1) {
             System.out.println("the calls up to there: " + calls);
-        }
-    }
-
-    /** The answer of a method of the class or of the model, a boolean as 1 or 0. */
-    private static int asked(Object target, String name, int[] a) {
-        for (Method method : target.getClass().getDeclaredMethods()) {
-            if (method.getName().equals(name)) {
-                return answer(target, method, a);
-            }
-        }
-        throw new IllegalArgumentException("there is no " + name);
-    }
-
-    private static int answer(Object target, Method method, int[] a) {
-        Object[] arguments = new Object[a.length];
-        for (int i = 0; i < a.length; i++) {
-            boolean truth = method.getParameterTypes()[i] == boolean.class;
-            arguments[i] = truth ? (Object) (a[i] != 0) : (Object) a[i];
-        }
-        try {
-            Object got = method.invoke(target, arguments);
-            return got instanceof Boolean yes ? (yes ? 1 : 0) : (Integer) got;
-        } catch (ReflectiveOperationException thrown) {
-            throw new IllegalStateException(thrown.getCause() == null ? thrown : thrown.getCause());
         }
     }
 
